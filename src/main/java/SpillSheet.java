@@ -138,7 +138,7 @@ public final class SpillSheet {
         if (kind == CHOICE) {
             third = moved(third, rows, columns);
         }
-        if (kind == BROKEN || first == OUTSIDE || second == OUTSIDE || third == OUTSIDE) {
+        if (first == OUTSIDE || second == OUTSIDE || third == OUTSIDE) {
             write(to, BROKEN, 0, 0, 0);
         } else {
             write(to, kind, first, second, third);
