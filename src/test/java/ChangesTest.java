@@ -1,7 +1,5 @@
 /** Promises 1 to 8: a new object and the calls that change it. */
 public final class ChangesTest {
-    private static final int[] BAD_CELLS = {-1, 36, -36, 1000, Integer.MIN_VALUE, Integer.MAX_VALUE};
-
     // Outside 0 .. 1295; columns the wrong way round; rows the wrong way round; both.
     private static final int[] BAD_RECTANGLES = {
         -1, 1296, Integer.MIN_VALUE, Integer.MAX_VALUE, -36,
@@ -85,7 +83,7 @@ public final class ChangesTest {
     private static void numberRefused() {
         SpillSheet x = new SpillSheet();
         x.number(0, 5);
-        for (int bad : BAD_CELLS) {
+        for (int bad : Check.BAD_CELLS) {
             Check.due("number: cell " + bad, x.number(bad, 1), -1);
             Check.due("number: cell first " + bad, x.number(bad, 1001), -1);
         }
@@ -144,7 +142,7 @@ public final class ChangesTest {
 
     private static void pairRefused() {
         SpillSheet x = new SpillSheet();
-        for (int bad : BAD_CELLS) {
+        for (int bad : Check.BAD_CELLS) {
             Check.due("pair: cell " + bad, x.pair(bad, 0, 0, 0), -1);
             Check.due("pair: cell first " + bad, x.pair(bad, 5, bad, bad), -1);
             Check.due("pair: a " + bad, x.pair(0, 0, bad, 0), -3);
@@ -184,7 +182,7 @@ public final class ChangesTest {
 
     private static void sumRefused() {
         SpillSheet x = new SpillSheet();
-        for (int bad : BAD_CELLS) {
+        for (int bad : Check.BAD_CELLS) {
             Check.due("sum: cell " + bad, x.sum(bad, 0), -1);
             Check.due("sum: cell first " + bad, x.sum(bad, -1), -1);
         }
@@ -213,7 +211,7 @@ public final class ChangesTest {
 
     private static void choiceRefused() {
         SpillSheet x = new SpillSheet();
-        for (int bad : BAD_CELLS) {
+        for (int bad : Check.BAD_CELLS) {
             Check.due("choice: cell " + bad, x.choice(bad, 0, 0, 0), -1);
             Check.due("choice: cell first " + bad, x.choice(bad, bad, 0, 0), -1);
             Check.due("choice: a " + bad, x.choice(0, bad, 0, 0), -2);
@@ -310,7 +308,7 @@ public final class ChangesTest {
 
     private static void spreadRefused() {
         SpillSheet x = new SpillSheet();
-        for (int bad : BAD_CELLS) {
+        for (int bad : Check.BAD_CELLS) {
             Check.due("spread: cell " + bad, x.spread(bad, 0), -1);
             Check.due("spread: cell first " + bad, x.spread(bad, -1), -1);
         }
@@ -348,7 +346,7 @@ public final class ChangesTest {
 
     private static void eraseRefused() {
         SpillSheet x = new SpillSheet();
-        for (int bad : BAD_CELLS) {
+        for (int bad : Check.BAD_CELLS) {
             Check.due("erase: cell " + bad, x.erase(bad), -1);
         }
     }
@@ -450,33 +448,21 @@ public final class ChangesTest {
     }
 
     private static void copyOntoItself() {
-        SpillSheet x = mixedSheet();
+        SpillSheet x = Check.mixedSheet();
         for (int cell : new int[] {0, 1, 12, 13, 34, 35}) {
             Check.due("copy onto itself " + cell, x.copy(cell, cell), 0);
         }
         Check.due("a broken one onto itself", x.copy(5, 5), 1);
-        String untouched = Check.picture(mixedSheet());
+        String untouched = Check.picture(Check.mixedSheet());
         Check.due("nothing changed", Check.picture(x).equals(untouched) ? 1 : 0, 1);
         x.number(0, -6);
         Check.due("the pair keeps its operation", x.value(1), 36);
     }
 
-    private static SpillSheet mixedSheet() {
-        SpillSheet x = new SpillSheet();
-        x.number(0, 5);
-        x.pair(1, 2, 0, 0);
-        x.spread(12, Check.rectangle(0, 7));
-        x.sum(35, Check.rectangle(0, 1));
-        x.spread(34, 35);
-        x.pair(11, 0, 0, 11);
-        x.copy(11, 5);
-        return x;
-    }
-
     private static void copyRefused() {
         SpillSheet x = new SpillSheet();
         x.number(0, 1);
-        for (int bad : BAD_CELLS) {
+        for (int bad : Check.BAD_CELLS) {
             Check.due("copy: from " + bad, x.copy(bad, 0), -1);
             Check.due("copy: to " + bad, x.copy(0, bad), -1);
             Check.due("copy: both " + bad, x.copy(bad, bad), -1);
@@ -485,9 +471,9 @@ public final class ChangesTest {
     }
 
     private static void refusedChangesNothing() {
-        String untouched = Check.picture(mixedSheet());
+        String untouched = Check.picture(Check.mixedSheet());
         for (int bad : new int[] {-1, 36, 1296}) {
-            SpillSheet x = mixedSheet();
+            SpillSheet x = Check.mixedSheet();
             for (int cell : new int[] {0, 1, 12, 13, 34, 35}) {
                 x.number(cell, 1001);
                 x.number(cell, -1001);

@@ -1,5 +1,7 @@
 /** Counts the answers of one test that are not the ones that are due. */
 final class Check {
+    static final int[] BAD_CELLS = {-1, 36, -36, 1000, Integer.MIN_VALUE, Integer.MAX_VALUE};
+
     private static int wrong = 0;
     private static int checked = 0;
 
@@ -35,6 +37,19 @@ final class Check {
             set |= 1L << cell;
         }
         return set;
+    }
+
+    /** A sheet with cells of every state. */
+    static SpillSheet mixedSheet() {
+        SpillSheet x = new SpillSheet();
+        x.number(0, 5);
+        x.pair(1, 2, 0, 0);
+        x.spread(12, Check.rectangle(0, 7));
+        x.sum(35, Check.rectangle(0, 1));
+        x.spread(34, 35);
+        x.pair(11, 0, 0, 11);
+        x.copy(11, 5);
+        return x;
     }
 
     /** All answers of a sheet's questions, to see that a call changed nothing. */

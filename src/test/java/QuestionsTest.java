@@ -1,7 +1,5 @@
 /** Promises 9 to 18: the questions. */
 public final class QuestionsTest {
-    private static final int[] BAD_CELLS = {-1, 36, -36, 1000, Integer.MIN_VALUE, Integer.MAX_VALUE};
-
     public static void main(String[] args) {
         badArguments();
         kinds();
@@ -26,7 +24,7 @@ public final class QuestionsTest {
         SpillSheet x = new SpillSheet();
         x.number(0, 5);
         x.number(35, 5);
-        for (int bad : BAD_CELLS) {
+        for (int bad : Check.BAD_CELLS) {
             Check.due("kind " + bad, x.kind(bad), -1);
             Check.due("state " + bad, x.state(bad), -1);
             Check.due("value " + bad, x.value(bad), 0);
@@ -348,32 +346,21 @@ public final class QuestionsTest {
 
     // A sheet is good for 512 calls, too few for two pictures: a twin gives the other one.
     private static void questionsChangeNothing() {
-        SpillSheet asked = mixedSheet();
+        SpillSheet asked = Check.mixedSheet();
         for (int argument = -1; argument < 37; argument++) {
             asked.inState(argument);
             asked.total(argument);
             asked.kind(argument);
             asked.readers(argument);
         }
-        String before = Check.picture(mixedSheet());
+        String before = Check.picture(Check.mixedSheet());
         Check.due("questions change nothing", Check.picture(asked).equals(before) ? 1 : 0, 1);
-        SpillSheet pictured = mixedSheet();
+        SpillSheet pictured = Check.mixedSheet();
         Check.picture(pictured);
         Check.due("after a picture: value", pictured.value(13), 25);
         Check.due("after a picture: shows", pictured.shows(19), 7);
-        Check.due("after a picture: state", pictured.state(20), 2);
-        Check.due("after a picture: failed", pictured.inState(3), 1);
+        Check.due("after a picture: state", pictured.state(11), 2);
+        Check.due("after a picture: failed", pictured.inState(3), 2);
         Check.due("after a picture: total", pictured.total(35), 90);
-    }
-
-    private static SpillSheet mixedSheet() {
-        SpillSheet x = new SpillSheet();
-        x.number(0, 5);
-        x.pair(1, 2, 0, 0);
-        x.spread(12, Check.rectangle(0, 7));
-        x.sum(35, Check.rectangle(0, 1));
-        x.spread(34, 35);
-        x.pair(20, 0, 20, 20);
-        return x;
     }
 }
