@@ -1,39 +1,22 @@
-/** Promises 1 to 8: a new object and the calls that change it. */
+/** Promises 1 to 8, ordinary inputs: a new object and the calls that change it. */
 public final class ChangesTest {
-    // Outside 0 .. 1295; columns the wrong way round; rows the wrong way round; both.
-    private static final int[] BAD_RECTANGLES = {
-        -1, 1296, Integer.MIN_VALUE, Integer.MAX_VALUE, -36,
-        Check.rectangle(1, 6), Check.rectangle(5, 34), Check.rectangle(6, 1), Check.rectangle(6, 0),
-        Check.rectangle(1, 0), Check.rectangle(35, 0), Check.rectangle(35, 34), Check.rectangle(35, 29),
-    };
-
     public static void main(String[] args) {
         newObject();
         objectsAreApart();
         numberOrdinary();
-        numberRefused();
         pairOrdinary();
         pairWraps();
-        pairRefused();
         sumOrdinary();
-        sumRefused();
         choiceOrdinary();
-        choiceRefused();
         spreadOpen();
         spreadBlockedByEdge();
         spreadBlockedByContent();
         spreadBlockedBySpread();
-        spreadRefused();
         eraseOrdinary();
-        eraseRefused();
         copyNumberAndEmpty();
         copyFormulas();
         copyBroken();
-        copyOntoItself();
-        copyRefused();
-        refusedChangesNothing();
         everyContentReplacesEveryOther();
-        lateCallsCount();
         Check.finish();
     }
 
@@ -78,20 +61,6 @@ public final class ChangesTest {
         }
         Check.due("number(0, 5)", x.number(0, 5), 0);
         Check.due("number: other cell stays", x.value(35), -1000);
-    }
-
-    private static void numberRefused() {
-        SpillSheet x = new SpillSheet();
-        x.number(0, 5);
-        for (int bad : Check.BAD_CELLS) {
-            Check.due("number: cell " + bad, x.number(bad, 1), -1);
-            Check.due("number: cell first " + bad, x.number(bad, 1001), -1);
-        }
-        int[] numbers = {1001, -1001, Integer.MAX_VALUE, Integer.MIN_VALUE};
-        for (int bad : numbers) {
-            Check.due("number: number " + bad, x.number(0, bad), -2);
-        }
-        Check.due("number: refused keeps value", x.value(0), 5);
     }
 
     private static void pairOrdinary() {
@@ -140,22 +109,6 @@ public final class ChangesTest {
         Check.due("wrap: total", x.total(Check.rectangle(2, 3)), 1294967296);
     }
 
-    private static void pairRefused() {
-        SpillSheet x = new SpillSheet();
-        for (int bad : Check.BAD_CELLS) {
-            Check.due("pair: cell " + bad, x.pair(bad, 0, 0, 0), -1);
-            Check.due("pair: cell first " + bad, x.pair(bad, 5, bad, bad), -1);
-            Check.due("pair: a " + bad, x.pair(0, 0, bad, 0), -3);
-            Check.due("pair: b " + bad, x.pair(0, 4, 0, bad), -3);
-            Check.due("pair: operation before a and b " + bad, x.pair(0, 5, bad, bad), -2);
-        }
-        int[] operations = {-1, 5, Integer.MIN_VALUE, Integer.MAX_VALUE};
-        for (int bad : operations) {
-            Check.due("pair: operation " + bad, x.pair(0, bad, 0, 0), -2);
-        }
-        Check.due("pair: refused leaves it empty", x.kind(0), 0);
-    }
-
     private static void sumOrdinary() {
         SpillSheet x = new SpillSheet();
         x.number(0, 1);
@@ -180,18 +133,6 @@ public final class ChangesTest {
         Check.due("sum of empty cells: state", x.state(20), 1);
     }
 
-    private static void sumRefused() {
-        SpillSheet x = new SpillSheet();
-        for (int bad : Check.BAD_CELLS) {
-            Check.due("sum: cell " + bad, x.sum(bad, 0), -1);
-            Check.due("sum: cell first " + bad, x.sum(bad, -1), -1);
-        }
-        for (int bad : BAD_RECTANGLES) {
-            Check.due("sum: rectangle " + bad, x.sum(0, bad), -2);
-        }
-        Check.due("sum: refused leaves it empty", x.kind(0), 0);
-    }
-
     private static void choiceOrdinary() {
         SpillSheet x = new SpillSheet();
         x.number(1, 11);
@@ -207,18 +148,6 @@ public final class ChangesTest {
         Check.due("choice: -1", x.value(35), 22);
         Check.due("choice: sources", x.sources(35), Check.set(0, 1, 2));
         Check.due("choice at the edge", x.choice(0, 35, 35, 35), 0);
-    }
-
-    private static void choiceRefused() {
-        SpillSheet x = new SpillSheet();
-        for (int bad : Check.BAD_CELLS) {
-            Check.due("choice: cell " + bad, x.choice(bad, 0, 0, 0), -1);
-            Check.due("choice: cell first " + bad, x.choice(bad, bad, 0, 0), -1);
-            Check.due("choice: a " + bad, x.choice(0, bad, 0, 0), -2);
-            Check.due("choice: b " + bad, x.choice(0, 0, bad, 0), -2);
-            Check.due("choice: c " + bad, x.choice(0, 0, 0, bad), -2);
-        }
-        Check.due("choice: refused leaves it empty", x.kind(0), 0);
     }
 
     private static void spreadOpen() {
@@ -306,18 +235,6 @@ public final class ChangesTest {
         Check.due("third of three", y.owner(14), 8);
     }
 
-    private static void spreadRefused() {
-        SpillSheet x = new SpillSheet();
-        for (int bad : Check.BAD_CELLS) {
-            Check.due("spread: cell " + bad, x.spread(bad, 0), -1);
-            Check.due("spread: cell first " + bad, x.spread(bad, -1), -1);
-        }
-        for (int bad : BAD_RECTANGLES) {
-            Check.due("spread: rectangle " + bad, x.spread(0, bad), -2);
-        }
-        Check.due("spread: refused leaves it empty", x.kind(0), 0);
-    }
-
     private static void eraseOrdinary() {
         SpillSheet x = new SpillSheet();
         Check.due("erase an empty one", x.erase(0), 0);
@@ -342,13 +259,6 @@ public final class ChangesTest {
         Check.due("erase a broken one", x.erase(0), 1);
         Check.due("erased: kind", x.kind(0), 0);
         Check.due("erased: state", x.state(0), 0);
-    }
-
-    private static void eraseRefused() {
-        SpillSheet x = new SpillSheet();
-        for (int bad : Check.BAD_CELLS) {
-            Check.due("erase: cell " + bad, x.erase(bad), -1);
-        }
     }
 
     private static void copyNumberAndEmpty() {
@@ -404,26 +314,6 @@ public final class ChangesTest {
 
     private static void copyBroken() {
         SpillSheet x = new SpillSheet();
-        int from = Check.cell(2, 2);
-        int[][] ways = {
-            {Check.cell(0, 2), Check.cell(1, 2)}, {Check.cell(2, 0), Check.cell(2, 1)},
-            {Check.cell(5, 2), Check.cell(3, 2)}, {Check.cell(2, 5), Check.cell(2, 3)},
-        };
-        int[] edges = {Check.cell(1, 2), Check.cell(2, 1), Check.cell(3, 2), Check.cell(2, 3)};
-        for (int way = 0; way < 4; way++) {
-            for (int place = 0; place < 7; place++) {
-                write(x, from, place, edges[way]);
-                int kind = x.kind(from);
-                Check.due("copy to the edge " + way + " " + place, x.copy(from, ways[way][1]), 0);
-                Check.due("kind at the edge", x.kind(ways[way][1]), kind);
-                Check.due("copy beyond " + way + " " + place, x.copy(from, ways[way][0]), 1);
-                Check.due("kind beyond", x.kind(ways[way][0]), 6);
-                Check.due("original stays", x.kind(from), kind);
-                x.erase(ways[way][0]);
-                x.erase(ways[way][1]);
-            }
-            x = new SpillSheet();
-        }
         x.pair(7, 0, 0, 0);
         x.copy(7, 1);
         Check.due("broken: state", x.state(1), 3);
@@ -432,64 +322,6 @@ public final class ChangesTest {
         Check.due("copy a broken one", x.copy(1, 30), 1);
         Check.due("copied broken: kind", x.kind(30), 6);
         Check.due("copy back does not heal", x.copy(1, 7), 1);
-    }
-
-    // Writes a formula into a cell, with the given one among its named cells or its corners.
-    private static void write(SpillSheet x, int cell, int place, int named) {
-        switch (place) {
-            case 0 -> x.pair(cell, 0, named, cell);
-            case 1 -> x.pair(cell, 0, cell, named);
-            case 2 -> x.choice(cell, named, cell, cell);
-            case 3 -> x.choice(cell, cell, named, cell);
-            case 4 -> x.choice(cell, cell, cell, named);
-            case 5 -> x.sum(cell, Check.rectangle(Math.min(named, cell), Math.max(named, cell)));
-            default -> x.spread(cell, Check.rectangle(Math.min(named, cell), Math.max(named, cell)));
-        }
-    }
-
-    private static void copyOntoItself() {
-        SpillSheet x = Check.mixedSheet();
-        for (int cell : new int[] {0, 1, 12, 13, 34, 35}) {
-            Check.due("copy onto itself " + cell, x.copy(cell, cell), 0);
-        }
-        Check.due("a broken one onto itself", x.copy(5, 5), 1);
-        String untouched = Check.picture(Check.mixedSheet());
-        Check.due("nothing changed", Check.picture(x).equals(untouched) ? 1 : 0, 1);
-        x.number(0, -6);
-        Check.due("the pair keeps its operation", x.value(1), 36);
-    }
-
-    private static void copyRefused() {
-        SpillSheet x = new SpillSheet();
-        x.number(0, 1);
-        for (int bad : Check.BAD_CELLS) {
-            Check.due("copy: from " + bad, x.copy(bad, 0), -1);
-            Check.due("copy: to " + bad, x.copy(0, bad), -1);
-            Check.due("copy: both " + bad, x.copy(bad, bad), -1);
-        }
-        Check.due("copy: refused keeps value", x.value(0), 1);
-    }
-
-    private static void refusedChangesNothing() {
-        String untouched = Check.picture(Check.mixedSheet());
-        for (int bad : new int[] {-1, 36, 1296}) {
-            SpillSheet x = Check.mixedSheet();
-            for (int cell : new int[] {0, 1, 12, 13, 34, 35}) {
-                x.number(cell, 1001);
-                x.number(cell, -1001);
-                x.pair(cell, 5, 0, 0);
-                x.pair(cell, 0, bad, 0);
-                x.pair(cell, 0, 0, bad);
-                x.sum(cell, Check.rectangle(1, 0));
-                x.choice(cell, bad, 0, 0);
-                x.choice(cell, 0, bad, 0);
-                x.choice(cell, 0, 0, bad);
-                x.spread(cell, Check.rectangle(1, 0));
-                x.copy(cell, bad);
-                x.copy(bad, cell);
-            }
-            Check.due("refused calls with " + bad, Check.picture(x).equals(untouched) ? 1 : 0, 1);
-        }
     }
 
     private static void everyContentReplacesEveryOther() {
@@ -522,15 +354,5 @@ public final class ChangesTest {
             case 5 -> x.spread(7, Check.rectangle(1, 2));
             default -> x.copy(35, 7);
         }
-    }
-
-    private static void lateCallsCount() {
-        SpillSheet x = new SpillSheet();
-        x.pair(35, 0, 0, 1);
-        for (int call = 1; call < 510; call++) {
-            x.number(call % 2, call);
-        }
-        Check.due("the 511th call", x.value(35), 509 + 508);
-        Check.due("the 512th call", x.sources(35), Check.set(0, 1));
     }
 }

