@@ -96,7 +96,7 @@ public final class ChangesEdgesTest {
         }
         for (int bad : new int[] {Integer.MIN_VALUE, -2, -1, 5, 6, Integer.MAX_VALUE}) {
             Check.due("operation " + bad, x.pair(2, bad, 1, 0), -2);
-            Check.due("sources after " + bad, x.value(2), 4);
+            Check.due("value after " + bad, x.value(2), 4);
             Check.due("in an empty cell", x.pair(3, bad, 1, 0), -2);
         }
         Check.due("the empty cell", x.kind(3), 0);
@@ -536,7 +536,53 @@ public final class ChangesEdgesTest {
             int kind = x.kind(cell);
             Check.due("copy(" + cell + ", " + cell + ")", x.copy(cell, cell), kind == 6 ? 1 : 0);
             Check.due("nothing changed", Check.picture(x).equals(untouched) ? 1 : 0, 1);
+            for (int content = 0; content < 7; content++) {
+                copyContentOntoItself(cell, content);
+            }
         }
+        copyFarFormulasOntoThemselves();
+    }
+
+    private static void copyContentOntoItself(int cell, int content) {
+        SpillSheet once = new SpillSheet();
+        Check.put(once, cell, content);
+        SpillSheet x = new SpillSheet();
+        Check.put(x, cell, content);
+        String call = "copy(" + cell + ", " + cell + ") of kind " + content;
+        Check.due(call, x.copy(cell, cell), content == 6 ? 1 : 0);
+        Check.due(call + " again", x.copy(cell, cell), content == 6 ? 1 : 0);
+        Check.due(call + ": kind", x.kind(cell), content);
+        Check.due(call + ": same", Check.picture(x).equals(Check.picture(once)) ? 1 : 0, 1);
+    }
+
+    /** Formulas that any move at all would break: each names the first and the last cell. */
+    private static void copyFarFormulasOntoThemselves() {
+        SpillSheet x = new SpillSheet();
+        x.number(0, 3);
+        x.number(35, 5);
+        x.number(34, 7);
+        x.pair(1, 1, 0, 35);
+        x.choice(2, 0, 35, 34);
+        x.choice(3, 1, 35, 0);
+        x.sum(8, Check.size(6, 6));
+        x.spread(9, Check.size(6, 6));
+        for (int cell : new int[] {1, 2, 3, 8, 9}) {
+            int kind = x.kind(cell);
+            Check.due("a far formula, cell " + cell, x.copy(cell, cell), 0);
+            Check.due("its kind, cell " + cell, x.kind(cell), kind);
+        }
+        Check.due("value of the pair", x.value(1), -2);
+        Check.due("value of the choice", x.value(2), 5);
+        Check.due("value of the other choice", x.value(3), 3);
+        Check.due("sources of the choice", x.sources(2), Check.set(0, 34, 35));
+        Check.due("sources of the sum", x.sources(8), Check.ALL_CELLS);
+        Check.due("state of the blocked spread", x.state(9), 3);
+        SpillSheet y = new SpillSheet();
+        y.spread(0, Check.size(6, 6));
+        Check.due("an open spread over all", y.copy(0, 0), 0);
+        Check.due("it is open still", y.owner(35), 0);
+        Check.due("an empty cell that shows one", y.copy(35, 35), 0);
+        Check.due("it shows it still", y.shows(35), 35);
     }
 
     private static void copyThereAndBack() {

@@ -194,7 +194,7 @@ public final class QuestionsTest {
         Check.due("sources in a loop", x.sources(20), loop | Check.set(21, 4, 29));
         Check.due("readers in a loop", x.readers(3), loop | Check.set(33, 0));
         Check.due("readers of a cell before a loop", x.readers(29), loop | Check.set(33, 0));
-        Check.due("a pair does not read itself", new SpillSheet().readers(0), 0L);
+        Check.due("readers in a new sheet", new SpillSheet().readers(0), 0L);
         SpillSheet y = new SpillSheet();
         y.sum(0, 35);
         Check.due("sources of the sum of all", y.sources(0), (1L << 36) - 1);
